@@ -127,7 +127,8 @@ public final class GlobalTree {
             return NOTHING;
         }
         int parent = parentOfPointer();
-        int at = countBefore(pointer + span(depth));
+        int end = pointer + span(depth);
+        int at = countBefore(end);
         return childSubscript(at, parent, depth - 1);
     }
 
@@ -201,23 +202,27 @@ public final class GlobalTree {
     }
 
     private int countWithin(int place, int level) {
-        int end = countBefore(place + span(level));
-        return end - countBefore(place);
+        int end = place + span(level);
+        return countBefore(end) - countBefore(place);
+    }
+
+    private boolean standsAt(int place, int at) {
+        return at < used && places[at] == place;
     }
 
     private boolean hasValue(int place) {
         int at = countBefore(place);
-        return at < used && places[at] == place;
+        return standsAt(place, at);
     }
 
     private int valueAt(int place) {
         int at = countBefore(place);
-        return at < used && places[at] == place ? values[at] : 0;
+        return standsAt(place, at) ? values[at] : 0;
     }
 
     private int store(int place, int value) {
         int at = countBefore(place);
-        if (at < used && places[at] == place) {
+        if (standsAt(place, at)) {
             values[at] = value;
             return 1;
         }

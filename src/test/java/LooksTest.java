@@ -158,6 +158,14 @@ public final class LooksTest {
         tree.kill();
         Trees.put(tree, 1, 12, 0);
         firstAt(tree, 12);
+        Trees.put(tree, 2, 11, 50);
+        Trees.put(tree, 3, 12);
+        firstAt(tree, 50, 11);
+        firstAt(tree, GlobalTree.NOTHING, 11, 50);
+        firstAt(tree, GlobalTree.NOTHING, 10);
+        Trees.go(tree, 11);
+        tree.kill();
+        firstAt(tree, GlobalTree.NOTHING, 11);
     }
 
     private static void queryWalksTheOrder() {

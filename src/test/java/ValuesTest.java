@@ -10,6 +10,7 @@ public final class ValuesTest {
         incrementRefuses();
         killTakesAWholeBranch();
         killTakesEverything();
+        killedNodesAreNotSeen();
         killMakesRoom();
         checks.end();
     }
@@ -143,6 +144,27 @@ public final class ValuesTest {
         checks.due("7: none to kill", tree.kill(), 0);
         checks.due("7: a value that was there is gone", Trees.valueAt(tree, 5), 0);
         checks.due("7: it is set anew", tree.set(1), 0);
+    }
+
+    private static void killedNodesAreNotSeen() {
+        GlobalTree tree = new GlobalTree();
+        Trees.put(tree, 1, 1);
+        Trees.put(tree, 2, 2);
+        Trees.put(tree, 3, 2, 2);
+        Trees.go(tree, 2);
+        checks.due("7: the last of all", tree.kill(), 2);
+        checks.due("7: no value", tree.value(), 0);
+        checks.due("7: no data", tree.data(), 0);
+        checks.due("7: no first", tree.first(), GlobalTree.NOTHING);
+        Trees.go(tree, 1);
+        checks.due("7: no next", tree.next(), GlobalTree.NOTHING);
+        checks.due("7: no query", tree.query(), 0);
+        Trees.go(tree, 3);
+        checks.due("7: none before but the first", tree.before(), 1);
+        checks.due("7: none previous but the first", tree.previous(), 1);
+        Trees.go(tree, 2);
+        checks.due("7: nothing to merge", tree.merge(4), 0);
+        checks.due("7: increment begins at 0", tree.increment(6), 6);
     }
 
     private static void killMakesRoom() {
