@@ -17,21 +17,12 @@ public final class LooksTest {
     }
 
     /** Its nodes have, in the order of nodes, the values 1 to 8. */
-    private static GlobalTree sample() {
-        GlobalTree tree = new GlobalTree();
-        Trees.put(tree, 8, 50, 50, 50);
-        Trees.put(tree, 3, 0, -50, -50);
-        Trees.put(tree, 6, 0, 0, 50);
-        Trees.put(tree, 2, 0);
-        Trees.put(tree, 5, 0, 0);
-        Trees.put(tree, 7, 7);
-        Trees.put(tree, 4, 0, -50, 50);
-        Trees.put(tree, 1, -50, 3);
-        return tree;
+    private static CountedTree sample() {
+        return Filled.SOME.tree(-50, 3);
     }
 
     private static void dataOfNodes() {
-        GlobalTree tree = sample();
+        CountedTree tree = sample();
         checks.due("9: empty pointer, some values", Trees.dataAt(tree), 10);
         checks.due("9: a value and below", Trees.dataAt(tree, 0), 11);
         checks.due("9: a value alone", Trees.dataAt(tree, 7), 1);
@@ -52,7 +43,7 @@ public final class LooksTest {
     }
 
     private static void valueOfNodes() {
-        GlobalTree tree = sample();
+        CountedTree tree = sample();
         checks.due("10: empty pointer", Trees.valueAt(tree), 0);
         checks.due("10: first level", Trees.valueAt(tree, 7), 7);
         checks.due("10: second level", Trees.valueAt(tree, 0, 0), 5);
@@ -64,13 +55,13 @@ public final class LooksTest {
         checks.due("10: a negative value", tree.value(), -100);
     }
 
-    private static void nextAt(GlobalTree tree, int want, int... subscripts) {
+    private static void nextAt(CountedTree tree, int want, int... subscripts) {
         Trees.go(tree, subscripts);
         checks.due("11: next at " + java.util.Arrays.toString(subscripts), tree.next(), want);
     }
 
     private static void nextAmongSiblings() {
-        GlobalTree tree = sample();
+        CountedTree tree = sample();
         nextAt(tree, GlobalTree.NOTHING);
         nextAt(tree, 0, -50);
         nextAt(tree, 0, -1);
@@ -92,13 +83,13 @@ public final class LooksTest {
         nextAt(tree, GlobalTree.NOTHING, 50, 50, 50);
     }
 
-    private static void previousAt(GlobalTree tree, int want, int... subscripts) {
+    private static void previousAt(CountedTree tree, int want, int... subscripts) {
         Trees.go(tree, subscripts);
         checks.due("12: previous at " + java.util.Arrays.toString(subscripts), tree.previous(), want);
     }
 
     private static void previousAmongSiblings() {
-        GlobalTree tree = sample();
+        CountedTree tree = sample();
         previousAt(tree, GlobalTree.NOTHING);
         previousAt(tree, 7, 50);
         previousAt(tree, 7, 8);
@@ -120,7 +111,7 @@ public final class LooksTest {
     }
 
     private static void siblingsAtTheEdges() {
-        GlobalTree tree = new GlobalTree();
+        CountedTree tree = new CountedTree();
         Trees.put(tree, 1, -50);
         Trees.put(tree, 2, 50);
         nextAt(tree, 50, -50);
@@ -135,13 +126,13 @@ public final class LooksTest {
         previousAt(tree, GlobalTree.NOTHING, -49, -50, -50);
     }
 
-    private static void firstAt(GlobalTree tree, int want, int... subscripts) {
+    private static void firstAt(CountedTree tree, int want, int... subscripts) {
         Trees.go(tree, subscripts);
         checks.due("13: first at " + java.util.Arrays.toString(subscripts), tree.first(), want);
     }
 
     private static void firstChild() {
-        GlobalTree tree = sample();
+        CountedTree tree = sample();
         firstAt(tree, -50);
         firstAt(tree, -50, 0);
         firstAt(tree, 3, -50);
@@ -169,7 +160,7 @@ public final class LooksTest {
     }
 
     private static void queryWalksTheOrder() {
-        GlobalTree tree = sample();
+        CountedTree tree = sample();
         int[][] inOrder = {{}, {-50, 3}, {0}, {0, -50, -50}, {0, -50, 50}, {0, 0}, {0, 0, 50}, {7}, {50, 50, 50}};
         for (int i = 0; i < inOrder.length; i++) {
             Trees.go(tree, inOrder[i]);
@@ -178,7 +169,7 @@ public final class LooksTest {
         }
     }
 
-    private static void around(GlobalTree tree, int before, int query, int... subscripts) {
+    private static void around(CountedTree tree, int before, int query, int... subscripts) {
         String where = java.util.Arrays.toString(subscripts);
         Trees.go(tree, subscripts);
         checks.due("14: query at " + where, tree.query(), query);
@@ -186,7 +177,7 @@ public final class LooksTest {
     }
 
     private static void queryAndBeforeAtMissingNodes() {
-        GlobalTree tree = sample();
+        CountedTree tree = sample();
         around(tree, 0, 1, -50);
         around(tree, 0, 1, -50, 2, 50);
         around(tree, 1, 2, -50, 3, -50);
@@ -210,7 +201,7 @@ public final class LooksTest {
     }
 
     private static void countCountsValues() {
-        GlobalTree tree = sample();
+        CountedTree tree = sample();
         checks.due("16: eight", tree.count(), 8);
         tree.set(9);
         checks.due("16: one set again is no new one", tree.count(), 8);
@@ -223,7 +214,7 @@ public final class LooksTest {
     }
 
     private static void looksChangeNothing() {
-        GlobalTree tree = sample();
+        CountedTree tree = sample();
         Trees.go(tree, 0, -50);
         for (int i = 0; i < 3; i++) {
             checks.due("9: data, time " + i, tree.data(), 10);

@@ -18,7 +18,7 @@ public final class MergeTest {
     }
 
     private static void copies(int from, int to) {
-        GlobalTree tree = new GlobalTree();
+        CountedTree tree = new CountedTree();
         Trees.put(tree, 1, from);
         Trees.put(tree, 2, from, -50);
         Trees.put(tree, 3, from, -50, 50);
@@ -40,7 +40,7 @@ public final class MergeTest {
     }
 
     private static void keepsAndReplaces() {
-        GlobalTree tree = new GlobalTree();
+        CountedTree tree = new CountedTree();
         Trees.put(tree, 1, 1, 1);
         Trees.put(tree, 2, 1, 2);
         Trees.put(tree, 3, 2);
@@ -64,7 +64,7 @@ public final class MergeTest {
     }
 
     private static void deepInTheTree() {
-        GlobalTree tree = new GlobalTree();
+        CountedTree tree = new CountedTree();
         Trees.put(tree, 1, 3, 3);
         Trees.put(tree, 2, 3, 3, 3);
         Trees.put(tree, 3, 3, 3, 4);
@@ -81,7 +81,7 @@ public final class MergeTest {
     }
 
     private static void toItself() {
-        GlobalTree tree = new GlobalTree();
+        CountedTree tree = new CountedTree();
         Trees.put(tree, 1, 6);
         Trees.put(tree, 2, 6, 6);
         Trees.put(tree, 3, 6, 6, 6);
@@ -99,7 +99,7 @@ public final class MergeTest {
     }
 
     private static void nothingToCopy() {
-        GlobalTree tree = new GlobalTree();
+        CountedTree tree = new CountedTree();
         Trees.fill(tree, -50, 60);
         Trees.go(tree, 40);
         checks.due("8: nothing to copy needs no room", tree.merge(41), 0);
@@ -109,7 +109,7 @@ public final class MergeTest {
     }
 
     private static void refuses() {
-        GlobalTree tree = new GlobalTree();
+        CountedTree tree = new CountedTree();
         checks.due("8: with an empty pointer", tree.merge(1), GlobalTree.NO_NODE);
         checks.due("17: NO_NODE before BAD_SUBSCRIPT", tree.merge(51), GlobalTree.NO_NODE);
         Trees.fill(tree, -10, 60);
@@ -125,7 +125,7 @@ public final class MergeTest {
     }
 
     private static void fullChangesNothing() {
-        GlobalTree tree = new GlobalTree();
+        CountedTree tree = new CountedTree();
         Trees.fill(tree, -50, 55);
         Trees.put(tree, 1, 10);
         Trees.put(tree, 2, 10, 1);
@@ -140,7 +140,7 @@ public final class MergeTest {
     }
 
     private static void roomForExactlyAllNewOnes() {
-        GlobalTree tree = new GlobalTree();
+        CountedTree tree = new CountedTree();
         Trees.fill(tree, -50, 55);
         Trees.put(tree, 1, 10);
         Trees.put(tree, 2, 10, 1);

@@ -2,7 +2,6 @@
 public final class ModelTest {
     private static final int RUNS = 1500;
     private static final int CALLS = 512;
-    private static final int[] EDGES = {-50, -49, 0, 49, 50};
     private static final int[] BAD = {-51, 51, -100, 128, Integer.MIN_VALUE, Integer.MAX_VALUE};
     private static final String[] NAMES = {"down", "up", "turn", "set", "increment", "kill", "merge",
         "data", "value", "next", "previous", "first", "query", "before", "count"};
@@ -54,7 +53,7 @@ public final class ModelTest {
         }
         switch (kind) {
             case 0: return below(5) - 2;
-            case 1: return EDGES[below(EDGES.length)];
+            case 1: return Trees.EDGES[below(Trees.EDGES.length)];
             default: return below(101) - 50;
         }
     }

@@ -14,7 +14,7 @@ public final class PointerTest {
     }
 
     private static void newObject() {
-        GlobalTree tree = new GlobalTree();
+        CountedTree tree = new CountedTree();
         checks.due("1: count of a new object", tree.count(), 0);
         checks.due("1: data of a new object", tree.data(), 0);
         checks.due("1: value of a new object", tree.value(), 0);
@@ -28,7 +28,7 @@ public final class PointerTest {
     }
 
     private static void downAppends() {
-        GlobalTree tree = new GlobalTree();
+        CountedTree tree = new CountedTree();
         checks.due("2: first down, the least subscript", tree.down(-50), 1);
         checks.due("2: second down, the greatest subscript", tree.down(50), 2);
         checks.due("2: third down", tree.down(0), 3);
@@ -40,7 +40,7 @@ public final class PointerTest {
     }
 
     private static void downRefuses() {
-        GlobalTree tree = new GlobalTree();
+        CountedTree tree = new CountedTree();
         int[] bad = {-51, 51, 77, -100, 78, 128, -179, Integer.MIN_VALUE, Integer.MAX_VALUE};
         for (int s : bad) {
             checks.due("2: down(" + s + ")", tree.down(s), GlobalTree.BAD_SUBSCRIPT);
@@ -60,7 +60,7 @@ public final class PointerTest {
     }
 
     private static void upTakesOff() {
-        GlobalTree tree = new GlobalTree();
+        CountedTree tree = new CountedTree();
         Trees.go(tree, 7, -8, 9);
         checks.due("3: up from three", tree.up(), 2);
         checks.due("3: the second is the last now", tree.turn(-8), -8);
@@ -78,7 +78,7 @@ public final class PointerTest {
     }
 
     private static void turnChangesTheLast() {
-        GlobalTree tree = new GlobalTree();
+        CountedTree tree = new CountedTree();
         Trees.go(tree, 1, 2, 3);
         checks.due("4: turn answers the old one", tree.turn(-50), 3);
         checks.due("4: to the greatest from the least", tree.turn(50), -50);
@@ -95,7 +95,7 @@ public final class PointerTest {
     }
 
     private static void turnRefuses() {
-        GlobalTree tree = new GlobalTree();
+        CountedTree tree = new CountedTree();
         checks.due("4: turn of an empty pointer", tree.turn(0), GlobalTree.NO_NODE);
         checks.due("17: NO_NODE before BAD_SUBSCRIPT", tree.turn(51), GlobalTree.NO_NODE);
         checks.due("4: it is still empty", tree.up(), GlobalTree.NO_NODE);
@@ -108,8 +108,8 @@ public final class PointerTest {
     }
 
     private static void objectsAreApart() {
-        GlobalTree one = new GlobalTree();
-        GlobalTree other = new GlobalTree();
+        CountedTree one = new CountedTree();
+        CountedTree other = new CountedTree();
         Trees.put(one, 5, 1);
         checks.due("1: another object has no values", other.count(), 0);
         checks.due("1: another object's pointer is empty", other.up(), GlobalTree.NO_NODE);

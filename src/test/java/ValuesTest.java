@@ -16,7 +16,7 @@ public final class ValuesTest {
     }
 
     private static void setGivesAValue() {
-        GlobalTree tree = new GlobalTree();
+        CountedTree tree = new CountedTree();
         checks.due("5: set anew", Trees.put(tree, 10, 1), 0);
         checks.due("5: set again", tree.set(11), 1);
         checks.due("5: the value", tree.value(), 11);
@@ -39,7 +39,7 @@ public final class ValuesTest {
     }
 
     private static void setRefuses() {
-        GlobalTree tree = new GlobalTree();
+        CountedTree tree = new CountedTree();
         checks.due("5: set with an empty pointer", tree.set(1), GlobalTree.NO_NODE);
         checks.due("5: nothing changed", tree.count(), 0);
         Trees.fill(tree, -50, 59);
@@ -57,7 +57,7 @@ public final class ValuesTest {
     }
 
     private static void incrementAdds() {
-        GlobalTree tree = new GlobalTree();
+        CountedTree tree = new CountedTree();
         Trees.go(tree, 3, 3);
         checks.due("6: from no value", tree.increment(5), 5);
         checks.due("6: it has one now", tree.data(), 1);
@@ -75,7 +75,7 @@ public final class ValuesTest {
     }
 
     private static void incrementWraps() {
-        GlobalTree tree = new GlobalTree();
+        CountedTree tree = new CountedTree();
         Trees.put(tree, Integer.MAX_VALUE, 1);
         checks.due("6: wraps up", tree.increment(1), Integer.MIN_VALUE);
         checks.due("6: wraps down", tree.increment(-1), Integer.MAX_VALUE);
@@ -84,7 +84,7 @@ public final class ValuesTest {
     }
 
     private static void incrementRefuses() {
-        GlobalTree tree = new GlobalTree();
+        CountedTree tree = new CountedTree();
         checks.due("6: with an empty pointer", tree.increment(5), GlobalTree.NO_NODE);
         checks.due("6: nothing changed", tree.count(), 0);
         Trees.fill(tree, -10, 60);
@@ -99,8 +99,8 @@ public final class ValuesTest {
         checks.due("17: increment, NO_NODE before FULL", tree.increment(1), GlobalTree.NO_NODE);
     }
 
-    private static GlobalTree branches() {
-        GlobalTree tree = new GlobalTree();
+    private static CountedTree branches() {
+        CountedTree tree = new CountedTree();
         Trees.put(tree, 1, 4);
         Trees.put(tree, 2, 4, 50, 50);
         Trees.put(tree, 3, 5);
@@ -112,7 +112,7 @@ public final class ValuesTest {
     }
 
     private static void killTakesAWholeBranch() {
-        GlobalTree tree = branches();
+        CountedTree tree = branches();
         Trees.go(tree, 5);
         checks.due("7: the node and all below", tree.kill(), 4);
         checks.due("7: they are gone", tree.data(), 0);
@@ -137,7 +137,7 @@ public final class ValuesTest {
     }
 
     private static void killTakesEverything() {
-        GlobalTree tree = branches();
+        CountedTree tree = branches();
         Trees.go(tree);
         checks.due("7: all values", tree.kill(), 7);
         checks.due("7: none are left", tree.count(), 0);
@@ -147,7 +147,7 @@ public final class ValuesTest {
     }
 
     private static void killedNodesAreNotSeen() {
-        GlobalTree tree = new GlobalTree();
+        CountedTree tree = new CountedTree();
         Trees.put(tree, 1, 1);
         Trees.put(tree, 2, 2);
         Trees.put(tree, 3, 2, 2);
@@ -168,7 +168,7 @@ public final class ValuesTest {
     }
 
     private static void killMakesRoom() {
-        GlobalTree tree = new GlobalTree();
+        CountedTree tree = new CountedTree();
         Trees.fill(tree, -50, 60);
         Trees.go(tree, -50);
         checks.due("7: one of sixty", tree.kill(), 1);
