@@ -43,6 +43,7 @@ public final class LookEdgesTest {
         beforeLeavesTheNodeItselfOut();
         beforeCountsParentsAndNoChildren();
         theFirstDifferenceDecides();
+        aValueOfZeroIsAValue();
         countOfNoneAndSixty();
         countIsOfValuesAlone();
         checks.end();
@@ -473,6 +474,27 @@ public final class LookEdgesTest {
             due(CountedTree::before, tree, i, nodes[i]);
             due(CountedTree::query, tree, i + 1 < nodes.length ? i + 2 : 0, nodes[i]);
         }
+    }
+
+    private static void aValueOfZeroIsAValue() {
+        checks.about("Terms 'A node EXISTS if it has a value', one of 0 too");
+        CountedTree tree = with(node(-1), node(0), node(1));
+        Trees.put(tree, 0, 0);
+        due(CountedTree::data, tree, 1, 0);
+        due(CountedTree::next, tree, 0, -1);
+        due(CountedTree::previous, tree, 0, 1);
+        due(CountedTree::query, tree, 0, -1);
+        due(CountedTree::before, tree, 2, 1);
+        due(CountedTree::count, tree, 3);
+        tree = with(node(5, 5, 50), node(5, 50));
+        Trees.put(tree, 0, 5, 5, -50);
+        due(CountedTree::first, tree, -50, 5, 5);
+        due(CountedTree::query, tree, 0);
+        due(CountedTree::data, tree, 10, 5, 5);
+        tree = with(node(5));
+        Trees.put(tree, 0, 5, 5);
+        due(CountedTree::data, tree, 11, 5);
+        due(CountedTree::data, tree, 10);
     }
 
     private static void countOfNoneAndSixty() {

@@ -143,9 +143,15 @@ public final class PointerEdgesTest {
         for (Filled filled : Filled.values()) {
             checks.changesNothing("up, " + filled, filled.start(), CountedTree::up);
         }
+        // Each start above has made such a call itself; this one has not.
         CountedTree tree = new CountedTree();
+        tree.down(5);
+        tree.set(6);
         tree.up();
+        tree.up();
+        checks.due("count after it", tree.count(), 1);
         checks.due("the first down after it", tree.down(5), 1);
+        checks.due("the value after it", tree.value(), 6);
     }
 
     private static void upAnswersHowMany() {
