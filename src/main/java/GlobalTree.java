@@ -104,7 +104,7 @@ public final class GlobalTree {
         }
         int distance = distanceToSibling(s);
         int copied = countWithin(pointer, depth);
-        int added = countMissing(copied, distance);
+        int added = countMissing(distance);
         if (used + added > MAX_VALUES) {
             return FULL;
         }
@@ -239,10 +239,10 @@ public final class GlobalTree {
         return 0;
     }
 
-    private int countMissing(int copied, int distance) {
-        int from = countBefore(pointer);
+    private int countMissing(int distance) {
+        int end = pointer + span(depth);
         int missing = 0;
-        for (int i = from; i < from + copied; i++) {
+        for (int i = countBefore(pointer); i < used && places[i] < end; i++) {
             if (!hasValue(places[i] + distance)) {
                 missing++;
             }
@@ -254,7 +254,9 @@ public final class GlobalTree {
         for (int i = 0; i < copied; i++) {
             // Looked up anew: a copy put in ahead of the run moves the run.
             int at = countBefore(pointer) + i;
-            store(places[at] + distance, values[at]);
+            if (at < used) {
+                store(places[at] + distance, values[at]);
+            }
         }
     }
 
